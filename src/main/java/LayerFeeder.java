@@ -616,7 +616,7 @@ public final class LayerFeeder {
             return top == 0;
         }
 
-        /** With a dwell it is 0, since its steps are all 0. */
+        /** 0 with a dwell, since its steps are all 0. */
         int jointWith(Block next) {
             long common = stepsTimes(next);
             long product = stepsTimes(this) * next.stepsTimes(next);

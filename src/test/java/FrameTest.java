@@ -81,6 +81,9 @@ public final class FrameTest {
         Bench.due("a blank before *", Bench.receive(feeder, "N0 G90 *16"), LayerFeeder.REPEAT);
         Bench.due("a blank in front", Bench.receive(feeder, " N0 G90*16"), LayerFeeder.REPEAT);
         Bench.due("both", Bench.receive(feeder, " N0 G90 *16"), 0);
+        LayerFeeder other = new LayerFeeder(100);
+        Bench.due("0, not told", Bench.receive(other, "N0G1E2F9*"), LayerFeeder.REPEAT);
+        Bench.due("0, told", Bench.receive(other, "N0G1E2F9*000"), 0);
     }
 
     private static void numbersGrowOverOneDecimal() {
