@@ -1,14 +1,24 @@
 /** What the tests share: sending frames, and comparing answers with those that are due. */
 final class Bench {
     private static int wrong = 0;
+    private static String sentence = "";
 
     private Bench() {
     }
 
+    /** The words of the document by which the answers that are compared from now on are due. */
+    static void sentence(String words) {
+        sentence = words;
+    }
+
+    static void note(String what) {
+        wrong++;
+        System.out.println("\"" + sentence + "\": " + what);
+    }
+
     static void due(String call, long got, long want) {
         if (got != want) {
-            wrong++;
-            System.out.println(call + " answered " + got + ", due is " + want);
+            note(call + " answered " + got + ", due is " + want);
         }
     }
 
@@ -24,8 +34,7 @@ final class Bench {
             got = e.getClass().getName();
         }
         if (!got.equals(want.getName())) {
-            wrong++;
-            System.out.println(call + " threw " + got + ", due is " + want.getName());
+            note(call + " threw " + got + ", due is " + want.getName());
         }
     }
 
@@ -55,11 +64,6 @@ final class Bench {
             int exit = i + 1 < entries.length ? entries[i + 1] : 0;
             due(when + ": plan(" + i + ", 1)", feeder.plan(i, 1), exit);
         }
-    }
-
-    static void note(String what) {
-        wrong++;
-        System.out.println(what);
     }
 
     static long packed(String characters) {
@@ -100,6 +104,7 @@ final class Bench {
     static void order(LayerFeeder feeder, String command) {
         int number = feeder.wanted();
         due("N" + number + " " + command, send(feeder, "N" + number + " " + command), number);
+        due("wanted() behind " + command, feeder.wanted(), number + 1);
     }
 
     /** Sends a command in the frame that is wanted, and it is not carried out. */
@@ -110,12 +115,43 @@ final class Bench {
         due("wanted() behind " + command, feeder.wanted(), next);
     }
 
+    static LayerFeeder feederWith(int acceleration, String... commands) {
+        LayerFeeder feeder = new LayerFeeder(acceleration);
+        for (String command : commands) {
+            order(feeder, command);
+        }
+        return feeder;
+    }
+
+    /** Carries a command out, and passes as many ticks as any one block of the tests needs. */
+    static void doWhole(LayerFeeder feeder, String command) {
+        order(feeder, command);
+        feeder.run(20000);
+    }
+
+    /** Passes ticks, one by one, until the last block in the row has ended. */
+    static void tickToTheEnd(LayerFeeder feeder) {
+        for (int i = 0; i < 400 && feeder.left() > 0; i++) {
+            feeder.tick();
+        }
+        due("left() at the end", feeder.left(), 0);
+    }
+
     /** A feeder that was cut while its first block ended, of which so many words were written. */
     static LayerFeeder cutOff(int words) {
-        LayerFeeder feeder = new LayerFeeder(1000);
-        order(feeder, "G1 X3 Y2 E-1 F1000");
+        LayerFeeder feeder = feederWith(1000, "G1 X3 Y2 E-1 F1000");
         feeder.cut(words);
         feeder.run(20000);
+        return feeder;
+    }
+
+    /** Two blocks have ended, and the third one was cut after so many words. */
+    static LayerFeeder cutAtTheThird(int words) {
+        LayerFeeder feeder = new LayerFeeder(1000);
+        doWhole(feeder, "G1 X3 Y2 E-1 F1000");
+        doWhole(feeder, "G1 X4 Y5 E-6");
+        feeder.cut(words);
+        doWhole(feeder, "G1 X7 Y8 E-9");
         return feeder;
     }
 

@@ -28,6 +28,7 @@ public final class ModelTest {
     }
 
     public static void main(String[] args) {
+        Bench.sentence("Promises 1 to 19, in mixed runs");
         for (int seed = 0; seed < RUNS; seed++) {
             new ModelTest(seed).play();
         }

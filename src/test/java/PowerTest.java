@@ -1,243 +1,239 @@
 import java.util.NoSuchElementException;
 
-/** Promises 15 (cut), 16 (power), 17 (home), 18 (resume) and 19 (slot). */
+/** POWER comes again, and promises 16 (power), 17 (home) and 18 (resume). */
 public final class PowerTest {
     public static void main(String[] args) {
-        slotsAreWrittenInTurn();
-        slotsAreWrittenWordByWord();
-        firstWordTakesTheOldNumberAway();
-        powerGoesOffWithTheBlock();
-        cutIsSetAnew();
-        cutLooksAtItsArgument();
-        powerComesAgain();
-        homeEndsBeingLost();
-        resumeEndsBeingLost();
-        resumeNeedsASlot();
+        powerNeedsToBeOff();
+        numbersOfFramesAreFrom0();
+        valuesAreStepsAgain();
+        speedIs100Again();
+        placeIs0Everywhere();
+        itIsLostThen();
         blocksAreCountedOn();
-        slotLooksAtItsArguments();
+        blocksAreCountedOnAgainAndAgain();
+        homeEndsBeingLost();
+        homeNeedsToBeLost();
+        resumeTakesTheGreatestNumber();
+        resumeGoesOnFromThere();
+        resumeNeedsToBeLost();
+        resumeNeedsASlot();
         Bench.end();
     }
 
-    private static void end(LayerFeeder feeder, String command) {
-        Bench.order(feeder, command);
-        feeder.run(20000);
-    }
-
-    /** Two blocks have ended, and the third one was cut after so many words. */
-    private static LayerFeeder cutAtTheThird(int words) {
-        LayerFeeder feeder = new LayerFeeder(1000);
-        end(feeder, "G1 X3 Y2 E-1 F1000");
-        end(feeder, "G1 X4 Y5 E-6");
-        feeder.cut(words);
-        end(feeder, "G1 X7 Y8 E-9");
+    /** A feeder whose power came again, all that it was told before being unusual. */
+    private static LayerFeeder lostFeeder() {
+        LayerFeeder feeder = Bench.feederWith(1000, "G91", "G92 X100 Y200 E300");
+        feeder.cut(5);
+        Bench.doWhole(feeder, "G1 X30 Y20 E-10 F1000");
+        feeder.power();
         return feeder;
     }
 
-    private static void slotsAreWrittenInTurn() {
+    private static void powerNeedsToBeOff() {
+        Bench.sentence("Power comes again. Illegal state: it is on");
         LayerFeeder feeder = new LayerFeeder(1000);
-        end(feeder, "G1 X3 Y2 E-1 F1000");
-        Bench.dueSlot("1 block", feeder, 1, 3, 2, -1, 1);
-        Bench.dueSlot("1 block", feeder, 0, 0, 0, 0, 0);
-        end(feeder, "G4 P1");
-        Bench.dueSlot("2 blocks", feeder, 0, 3, 2, -1, 2);
-        end(feeder, "G1 X7 Y8 E-9");
-        Bench.dueSlot("3 blocks", feeder, 0, 3, 2, -1, 2);
-        Bench.dueSlot("3 blocks", feeder, 1, 7, 8, -9, 3);
-        Bench.order(feeder, "G92 X0 Y0 E0");
-        end(feeder, "G1 X1");
-        Bench.dueSlot("4 blocks: steps, not values", feeder, 0, 8, 8, -9, 4);
-        Bench.order(feeder, "G1 X9");
-        feeder.tick();
-        Bench.dueSlot("a block at work", feeder, 1, 7, 8, -9, 3);
-    }
-
-    private static void slotsAreWrittenWordByWord() {
-        int[][] slots = {
-            {0, 0, 0, 0}, {0, 0, 0, 0}, {3, 0, 0, 0}, {3, 2, 0, 0}, {3, 2, -1, 0}, {3, 2, -1, 1},
-        };
-        for (int words = 0; words <= 5; words++) {
-            LayerFeeder feeder = Bench.cutOff(words);
-            Bench.dueSlot("cut(" + words + ")", feeder, 1, slots[words]);
-            Bench.dueSlot("cut(" + words + ")", feeder, 0, 0, 0, 0, 0);
-            Bench.dueThrow("tick()", IllegalStateException.class, feeder::tick);
-        }
-    }
-
-    private static void firstWordTakesTheOldNumberAway() {
-        int[][] slots = {
-            {3, 2, -1, 1}, {3, 2, -1, 0}, {7, 2, -1, 0}, {7, 8, -1, 0}, {7, 8, -9, 0}, {7, 8, -9, 3},
-        };
-        for (int words = 0; words <= 5; words++) {
-            LayerFeeder feeder = cutAtTheThird(words);
-            Bench.dueSlot("cut(" + words + ")", feeder, 1, slots[words]);
-            Bench.dueSlot("cut(" + words + ")", feeder, 0, 4, 5, -6, 2);
-            feeder.power();
-            Bench.due("resume()", feeder.resume(), words == 5 ? 3 : 2);
-            int third = words == 5 ? 3 : 0;
-            Bench.duePlace("cut(" + words + ")", feeder, 4 + third, 5 + third, -6 - third);
-        }
-    }
-
-    private static void powerGoesOffWithTheBlock() {
-        LayerFeeder feeder = new LayerFeeder(1000);
-        Bench.order(feeder, "G1 X1 F1000");
-        Bench.order(feeder, "G1 X5");
-        Bench.order(feeder, "G4 P9");
-        Bench.write(feeder, "N3 G1");
-        feeder.cut(2);
-        feeder.run(10);
-        feeder.hold(true);
-        int bits = 0;
-        for (int i = 0; i < 50 && bits == 0; i++) {
-            bits = feeder.tick();
-        }
-        Bench.due("the bits of the last tick", bits, 1);
-        Bench.due("left()", feeder.left(), 0);
-        Bench.due("busy()", feeder.busy(), false);
-        Bench.due("wipe()", feeder.wipe(), 0);
-        Bench.duePlace("off", feeder, 1, 0, 0);
-        Bench.dueCommanded("off", feeder, 1, 0, 0);
-        Bench.due("wanted()", feeder.wanted(), 3);
-        feeder.power();
-        Bench.due("hold(false): not held", feeder.hold(false), false);
-        feeder.home();
-        end(feeder, "G4 P1");
-        end(feeder, "G4 P1");
-        Bench.due("no cut is set", feeder.tick(), 0);
-    }
-
-    private static void cutIsSetAnew() {
-        LayerFeeder feeder = new LayerFeeder(1000);
-        feeder.cut(0);
-        feeder.cut(-1);
-        end(feeder, "G4 P1");
-        Bench.dueSlot("none is set", feeder, 1, 0, 0, 0, 1);
-        feeder.cut(5);
-        feeder.cut(1);
-        Bench.order(feeder, "G4 P2");
-        feeder.tick();
-        feeder.cut(0);
-        feeder.tick();
-        Bench.dueThrow("cut within a block", IllegalStateException.class, feeder::tick);
-        Bench.dueSlot("the last one counts", feeder, 0, 0, 0, 0, 0);
-    }
-
-    private static void cutLooksAtItsArgument() {
-        LayerFeeder feeder = new LayerFeeder(1000);
+        Bench.dueThrow("power() when new", IllegalStateException.class, feeder::power);
         LayerFeeder off = Bench.cutOff(5);
-        int[] wrong = {-2, 6, Integer.MIN_VALUE, Integer.MAX_VALUE};
-        for (int words : wrong) {
-            Bench.dueThrow("cut(" + words + ")", IllegalArgumentException.class,
-                () -> feeder.cut(words));
-            Bench.dueThrow("cut(" + words + ") when off", IllegalArgumentException.class,
-                () -> off.cut(words));
-        }
-        end(feeder, "G4 P1");
-        Bench.due("tick(): no cut was set", feeder.tick(), 0);
-        Bench.dueThrow("cut(-1) when off", IllegalStateException.class, () -> off.cut(-1));
-        Bench.dueThrow("cut(5) when off", IllegalStateException.class, () -> off.cut(5));
         off.power();
-        Bench.dueThrow("cut(5) when lost", IllegalStateException.class, () -> off.cut(5));
+        Bench.dueThrow("power() when lost", IllegalStateException.class, off::power);
         off.home();
-        end(off, "G4 P1");
-        Bench.due("tick(): no cut was set", off.tick(), 0);
+        Bench.dueThrow("power() behind home()", IllegalStateException.class, off::power);
+        LayerFeeder again = Bench.cutOff(5);
+        again.power();
+        again.resume();
+        Bench.dueThrow("power() behind resume()", IllegalStateException.class, again::power);
+        again.cut(0);
+        Bench.doWhole(again, "G4 P1");
+        again.power();
+        Bench.due("resume() for the second time", again.resume(), 1);
     }
 
-    private static void powerComesAgain() {
-        LayerFeeder feeder = new LayerFeeder(1000);
-        Bench.dueThrow("power() when on", IllegalStateException.class, feeder::power);
-        Bench.order(feeder, "G91");
-        Bench.order(feeder, "G92 X100");
-        feeder.cut(5);
-        end(feeder, "G1 X30 Y2 E-1 F1000");
-        feeder.power();
-        Bench.dueThrow("power() when lost", IllegalStateException.class, feeder::power);
+    private static void numbersOfFramesAreFrom0() {
+        Bench.sentence("numbers of frames from 0");
+        LayerFeeder feeder = lostFeeder();
         Bench.due("wanted()", feeder.wanted(), 0);
-        Bench.duePlace("lost", feeder, 0, 0, 0);
-        Bench.dueCommanded("lost", feeder, 0, 0, 0);
-        Bench.dueSlot("lost", feeder, 1, 30, 2, -1, 1);
+        feeder.home();
+        Bench.due("N3", Bench.send(feeder, "N3 G90"), LayerFeeder.REPEAT);
+        Bench.due("N0", Bench.send(feeder, "N0 G90"), 0);
+        Bench.due("N1", Bench.send(feeder, "N1 G90"), 1);
+    }
+
+    private static void valuesAreStepsAgain() {
+        Bench.sentence("values (G 90) that are steps");
+        LayerFeeder feeder = lostFeeder();
         feeder.resume();
         Bench.order(feeder, "G1 X40");
-        Bench.dueCommanded("values that are steps", feeder, 40, 2, -1);
-        Bench.due("the speed, squared", feeder.plan(0, 3), 10000);
-        Bench.dueThrow("power() when on", IllegalStateException.class, feeder::power);
+        Bench.dueCommanded("values of X", feeder, 40, 20, -10);
+        Bench.order(feeder, "G1 Y40");
+        Bench.dueCommanded("values of Y", feeder, 40, 40, -10);
+        Bench.order(feeder, "G1 E40");
+        Bench.dueCommanded("values of E", feeder, 40, 40, 40);
+        Bench.order(feeder, "G1 X40 Y40 E40");
+        Bench.due("left(): no differences", feeder.left(), 3);
+    }
+
+    private static void speedIs100Again() {
+        Bench.sentence("speed 100");
+        LayerFeeder feeder = lostFeeder();
+        feeder.home();
+        Bench.order(feeder, "G1 X1");
+        Bench.due("the top", feeder.plan(0, 3), 10000);
+    }
+
+    private static void placeIs0Everywhere() {
+        Bench.sentence("the place is 0 everywhere");
+        LayerFeeder feeder = Bench.cutOff(5);
+        Bench.duePlace("off", feeder, 3, 2, -1);
+        Bench.dueCommanded("off", feeder, 3, 2, -1);
+        feeder.power();
+        Bench.duePlace("lost", feeder, 0, 0, 0);
+        Bench.dueCommanded("lost", feeder, 0, 0, 0);
+        Bench.dueSlot("slots outlast it", feeder, 1, 3, 2, -1, 1);
+    }
+
+    private static void itIsLostThen() {
+        Bench.sentence("and it is LOST; illegal state: it is lost");
+        LayerFeeder feeder = lostFeeder();
+        Bench.dueThrow("tick()", IllegalStateException.class, feeder::tick);
+        Bench.dueThrow("receive()", IllegalStateException.class, feeder::receive);
+        Bench.due("hold(true)", feeder.hold(true), true);
+        Bench.due("hold(false)", feeder.hold(false), true);
+        Bench.due("left()", feeder.left(), 0);
+        Bench.due("busy()", feeder.busy(), false);
+    }
+
+    private static void blocksAreCountedOn() {
+        Bench.sentence("Blocks that end are counted on from the greatest fourth number of both slots");
+        for (int words = 0; words <= 5; words++) {
+            LayerFeeder feeder = Bench.cutAtTheThird(words);
+            feeder.power();
+            feeder.home();
+            Bench.doWhole(feeder, "G1 X1");
+            int next = words == 5 ? 4 : 3;
+            Bench.dueSlot("counted on", feeder, next % 2, 1, 0, 0, next);
+            Bench.doWhole(feeder, "G1 X2");
+            Bench.dueSlot("counted on", feeder, (next + 1) % 2, 2, 0, 0, next + 1);
+            LayerFeeder first = Bench.cutOff(words);
+            first.power();
+            first.home();
+            Bench.doWhole(first, "G1 X1");
+            next = words == 5 ? 2 : 1;
+            Bench.dueSlot("counted on from the first", first, next % 2, 1, 0, 0, next);
+        }
+    }
+
+    private static void blocksAreCountedOnAgainAndAgain() {
+        Bench.sentence("Blocks that end are counted on from the greatest fourth number of both slots");
+        LayerFeeder feeder = Bench.cutAtTheThird(4);
+        for (int words = 0; words <= 4; words++) {
+            feeder.power();
+            Bench.due("resume()", feeder.resume(), 2);
+            Bench.duePlace("resumed", feeder, 4, 5, -6);
+            feeder.cut(words);
+            Bench.doWhole(feeder, "G4 P1");
+            Bench.due("slot(1, 3)", feeder.slot(1, 3), 0);
+        }
+        for (int m = 3; m <= 7; m++) {
+            feeder.power();
+            Bench.due("resume()", feeder.resume(), m - 1);
+            feeder.cut(5);
+            Bench.doWhole(feeder, "G4 P1");
+            Bench.dueSlot("counted on", feeder, m % 2, 4, 5, -6, m);
+        }
     }
 
     private static void homeEndsBeingLost() {
+        Bench.sentence("Ends being lost, the place being 0 everywhere");
+        LayerFeeder feeder = Bench.cutOff(5);
+        feeder.power();
+        feeder.home();
+        Bench.duePlace("home", feeder, 0, 0, 0);
+        Bench.dueCommanded("home", feeder, 0, 0, 0);
+        Bench.due("tick()", feeder.tick(), 0);
+        Bench.order(feeder, "G1 X1 F1000");
+        Bench.due("run(22)", feeder.run(22), 1);
+        Bench.duePlace("behind home()", feeder, 1, 0, 0);
+        Bench.dueCommanded("behind home()", feeder, 1, 0, 0);
+    }
+
+    private static void homeNeedsToBeLost() {
+        Bench.sentence("Illegal state: it is not lost, or the power is off");
         LayerFeeder feeder = new LayerFeeder(1000);
+        Bench.doWhole(feeder, "G1 X3 F1000");
         Bench.dueThrow("home() when not lost", IllegalStateException.class, feeder::home);
+        Bench.duePlace("behind it", feeder, 3, 0, 0);
         LayerFeeder off = Bench.cutOff(5);
         Bench.dueThrow("home() when off", IllegalStateException.class, off::home);
         off.power();
         off.home();
-        Bench.duePlace("home", off, 0, 0, 0);
-        Bench.dueCommanded("home", off, 0, 0, 0);
         Bench.dueThrow("home() again", IllegalStateException.class, off::home);
         Bench.dueThrow("resume() behind home()", IllegalStateException.class, off::resume);
-        Bench.order(off, "G1 X1 F1000");
-        Bench.due("run(22)", off.run(22), 1);
-        Bench.duePlace("behind home()", off, 1, 0, 0);
     }
 
-    private static void resumeEndsBeingLost() {
+    private static void resumeTakesTheGreatestNumber() {
+        Bench.sentence("those of the slot with the greatest fourth number: this number");
+        for (int words = 0; words <= 5; words++) {
+            LayerFeeder third = Bench.cutAtTheThird(words);
+            third.power();
+            Bench.due("resume() behind cut(" + words + ")", third.resume(), words == 5 ? 3 : 2);
+            int more = words == 5 ? 3 : 0;
+            Bench.duePlace("resumed", third, 4 + more, 5 + more, -6 - more);
+            Bench.dueCommanded("resumed", third, 4 + more, 5 + more, -6 - more);
+            LayerFeeder second = new LayerFeeder(1000);
+            Bench.doWhole(second, "G1 X5 Y6 E7 F1000");
+            second.cut(words);
+            Bench.doWhole(second, "G1 X6 Y8 E9");
+            second.power();
+            Bench.due("resume() behind cut(" + words + ")", second.resume(), words == 5 ? 2 : 1);
+            Bench.duePlace("resumed", second, words == 5 ? 6 : 5, words == 5 ? 8 : 6,
+                words == 5 ? 9 : 7);
+        }
+        LayerFeeder first = Bench.cutOff(5);
+        first.power();
+        Bench.due("resume() behind one block", first.resume(), 1);
+        Bench.duePlace("resumed", first, 3, 2, -1);
+    }
+
+    private static void resumeGoesOnFromThere() {
+        Bench.sentence("Ends being lost, the place and the commanded place being those of the slot");
+        LayerFeeder feeder = Bench.cutAtTheThird(5);
+        feeder.power();
+        feeder.resume();
+        Bench.due("tick()", feeder.tick(), 0);
+        Bench.order(feeder, "G1 X8 F1000");
+        Bench.due("its length", feeder.plan(0, 2), 1);
+        Bench.due("run(22)", feeder.run(22), 1);
+        Bench.duePlace("behind resume()", feeder, 8, 8, -9);
+        Bench.dueSlot("behind resume()", feeder, 0, 8, 8, -9, 4);
+    }
+
+    private static void resumeNeedsToBeLost() {
+        Bench.sentence("Illegal state: it is not lost, or the power is off");
         LayerFeeder feeder = new LayerFeeder(1000);
+        Bench.dueThrow("resume() when new", IllegalStateException.class, feeder::resume);
+        Bench.doWhole(feeder, "G1 X3 F1000");
         Bench.dueThrow("resume() when not lost", IllegalStateException.class, feeder::resume);
-        LayerFeeder off = cutAtTheThird(5);
+        LayerFeeder off = Bench.cutOff(5);
         Bench.dueThrow("resume() when off", IllegalStateException.class, off::resume);
         off.power();
-        Bench.due("resume()", off.resume(), 3);
-        Bench.duePlace("resumed", off, 7, 8, -9);
-        Bench.dueCommanded("resumed", off, 7, 8, -9);
+        off.resume();
         Bench.dueThrow("resume() again", IllegalStateException.class, off::resume);
         Bench.dueThrow("home() behind resume()", IllegalStateException.class, off::home);
-        Bench.order(off, "G1 X8 F1000");
-        Bench.due("run(22)", off.run(22), 1);
-        Bench.duePlace("behind resume()", off, 8, 8, -9);
-        LayerFeeder even = new LayerFeeder(1000);
-        end(even, "G1 X5 F1000");
-        even.cut(5);
-        end(even, "G1 X6");
-        even.power();
-        Bench.due("resume() from slot 0", even.resume(), 2);
-        Bench.duePlace("resumed from slot 0", even, 6, 0, 0);
     }
 
     private static void resumeNeedsASlot() {
+        Bench.sentence("no such element: both slots have 0 there");
         for (int words = 0; words < 5; words++) {
             LayerFeeder feeder = Bench.cutOff(words);
             Bench.dueThrow("resume() when off", IllegalStateException.class, feeder::resume);
             feeder.power();
             Bench.dueThrow("resume()", NoSuchElementException.class, feeder::resume);
-            Bench.dueThrow("still lost: tick()", IllegalStateException.class, feeder::tick);
+            Bench.duePlace("still lost", feeder, 0, 0, 0);
+            Bench.dueThrow("tick(): still lost", IllegalStateException.class, feeder::tick);
+            Bench.dueThrow("resume() again", NoSuchElementException.class, feeder::resume);
             feeder.home();
             Bench.due("tick()", feeder.tick(), 0);
+            Bench.dueThrow("resume() behind home()", IllegalStateException.class, feeder::resume);
         }
-    }
-
-    private static void blocksAreCountedOn() {
-        for (int words = 0; words <= 5; words++) {
-            LayerFeeder feeder = cutAtTheThird(words);
-            feeder.power();
-            feeder.home();
-            end(feeder, "G1 X1");
-            int next = words == 5 ? 4 : 3;
-            Bench.dueSlot("counted on", feeder, next % 2, 1, 0, 0, next);
-            end(feeder, "G1 X2");
-            Bench.dueSlot("counted on", feeder, (next + 1) % 2, 2, 0, 0, next + 1);
-        }
-    }
-
-    private static void slotLooksAtItsArguments() {
-        LayerFeeder feeder = new LayerFeeder(1000);
-        int[][] wrong = {
-            {-1, 0}, {2, 0}, {0, -1}, {0, 4}, {1, -1}, {1, 4}, {-1, 4}, {2, -4},
-            {Integer.MAX_VALUE, 0}, {0, Integer.MIN_VALUE}, {Integer.MIN_VALUE, 3},
-        };
-        for (int[] w : wrong) {
-            Bench.dueThrow("slot(" + w[0] + ", " + w[1] + ")", IndexOutOfBoundsException.class,
-                () -> feeder.slot(w[0], w[1]));
-        }
-        LayerFeeder off = Bench.cutOff(5);
-        Bench.due("slot(1, 0) when off", off.slot(1, 0), 3);
     }
 }
