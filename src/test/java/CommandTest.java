@@ -6,6 +6,7 @@ public final class CommandTest {
     public static void main(String[] args) {
         codesAre1And4And90To92();
         codeStandsAloneInFront();
+        frameOfANumberAloneIsWrong();
         valuesAndDifferencesTakeNoMore();
         dwellTakes1To200();
         originTakesAnyAxes();
@@ -58,6 +59,16 @@ public final class CommandTest {
         };
         for (String command : wrong) {
             dueRight(command, false);
+        }
+    }
+
+    private static void frameOfANumberAloneIsWrong() {
+        Bench.sentence("A COMMAND is the words behind the first one (none, once)");
+        for (String before : new String[] {"G90", "G91", "G1", "G1 X5", "G92 X7", "G4 P2"}) {
+            LayerFeeder feeder = Bench.feederWith(100, before);
+            int left = feeder.left();
+            Bench.orderInVain(feeder, "", LayerFeeder.WRONG);
+            Bench.due("left() behind " + before, feeder.left(), left);
         }
     }
 
@@ -259,8 +270,12 @@ public final class CommandTest {
             Bench.dueCommanded("G92 " + letters[axis] + "5", feeder, axis == 0 ? 95 : 50,
                 axis == 1 ? 115 : 60, axis == 2 ? 135 : 70);
         }
-        LayerFeeder none = Bench.feederWith(100, "G1 X50 Y60 E70", "G92", "G1 X51 Y61 E71");
+        LayerFeeder none = Bench.feederWith(100, "G91", "G1 X50 Y60 E70", "G1 X5 Y6 E7", "G92",
+            "G90", "G1 X51 Y61 E71");
         Bench.dueCommanded("G92 of none", none, 51, 61, 71);
+        LayerFeeder one = Bench.feederWith(100, "G91", "G1 X50 Y60 E70", "G1 X5 Y6 E7", "G92 Y1",
+            "G90", "G1 X51 Y2 E71");
+        Bench.dueCommanded("G92 of Y", one, 51, 67, 71);
     }
 
     private static void originOutlastsOtherCommands() {

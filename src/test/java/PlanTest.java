@@ -211,6 +211,13 @@ public final class PlanTest {
         LayerFeeder feeder = feederWith(5, "G4 P9", "G1 X10 F1000", "G1 X7");
         feeder.tick();
         Bench.dueEntries("a dwell at work", feeder, 0, 0, 70);
+        LayerFeeder again = feederWith(5, "G1 X9 F1000", "G1 X9", "G1 X9", "G1 X9", "G1 X9",
+            "G1 X9", "G1 X9", "G1 X9");
+        again.stop();
+        for (int i = 0; i < 8; i++) {
+            Bench.order(again, "G4 P1");
+        }
+        Bench.dueEntries("dwells where moves were", again, 0, 0, 0, 0, 0, 0, 0, 0);
     }
 
     private static void exitOfTheBlockAtWorkStays() {

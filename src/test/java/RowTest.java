@@ -134,15 +134,16 @@ public final class RowTest {
             for (int done = 0; done < 20; done++) {
                 while (added < 20 && feeder.left() < kept) {
                     added++;
-                    Bench.order(feeder, added % 2 == 0 ? "G4 P" + added : "G1 E" + added);
+                    Bench.order(feeder, added % 3 == 0 ? "G4 P" + added : "G1 E" + added);
                 }
                 Bench.due("block " + done, feeder.plan(0, 2), done + 1);
                 int last = feeder.left() - 1;
                 Bench.due("the last block", feeder.plan(last, 2), added);
+                Bench.due("its top", feeder.plan(last, 3), added % 3 == 0 ? 0 : 10000);
                 doFirst(feeder);
             }
             Bench.due("left()", feeder.left(), 0);
-            Bench.duePlace("behind all", feeder, 0, 0, 100);
+            Bench.duePlace("behind all", feeder, 0, 0, 210 - 63);
         }
     }
 
