@@ -129,14 +129,6 @@ final class Bench {
         feeder.run(20000);
     }
 
-    /** Passes ticks, one by one, until the last block in the row has ended. */
-    static void tickToTheEnd(LayerFeeder feeder) {
-        for (int i = 0; i < 400 && feeder.left() > 0; i++) {
-            feeder.tick();
-        }
-        due("left() at the end", feeder.left(), 0);
-    }
-
     /** A feeder that was cut while its first block ended, of which so many words were written. */
     static LayerFeeder cutOff(int words) {
         LayerFeeder feeder = feederWith(1000, "G1 X3 Y2 E-1 F1000");
